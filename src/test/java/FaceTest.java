@@ -54,6 +54,10 @@ public final class FaceTest {
             System.out.println("the class is not public and final");
             right = false;
         }
+        if (ScanMill.NONE != -1) {
+            System.out.println("NONE is " + ScanMill.NONE + ", due is -1");
+            right = false;
+        }
         System.out.println(right ? "the face is as due" : "the face is not as due");
         if (!right) {
             System.exit(1);
