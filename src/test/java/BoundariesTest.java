@@ -634,8 +634,8 @@ public final class BoundariesTest {
                 new; op 7 0; scan; start; 6 * run 500 = 500; total 8 = 3; start = done; total 8 = 1; total 4 = 0; run 500 = 500
                 """);
         boundary("Promise 8", "(all 0 at first)", """
-                registers 8; op 10 0; op 10 1; op 9 2; op 10 2; op 10 1; scan; start
-                register 0 = 0; register 7 = 0; slot 0 = 0; run 5 = 5; register 7 = 7777777
+                registers 8; op 10 0; op 0 1 6; op 9 2; op 10 2; op 10 1; scan; start
+                register 0 = 0; register 7 = 0; slot 0 = 0; run 5 = 5; register 7 = 7777777; slot 0 = 6
                 start; register 0 = 0; register 7 = 0; slot 0 = 0
                 """);
         boundary("Promise 8", "The VALUES that are LIVE ahead of OP 0 are 0 there", """
